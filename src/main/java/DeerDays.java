@@ -711,9 +711,12 @@ public final class DeerDays {
 
         int tell(int word, int[] facts) {
             for (int i = 0; i < lines.count; i++) {
+                if (lines.cell(i, 0) != word) {
+                    continue;
+                }
                 int behind = lines.cell(i, 2);
                 int last = lines.cell(i, 3);
-                if (lines.cell(i, 0) == word && (behind == last || value(behind, last, facts) != 0)) {
+                if (behind == last || value(behind, last, facts) != 0) {
                     return held(word, value(lines.cell(i, 1), behind, facts));
                 }
             }
@@ -773,8 +776,8 @@ public final class DeerDays {
         }
 
         void copyFrom(Law other) {
-            length = other.length;
-            System.arraycopy(other.code, 0, code, 0, TAPE_MOST);
+            length = Math.max(0, Math.min(TAPE_MOST, other.length));
+            System.arraycopy(other.code, 0, code, 0, length);
             lines.copyFrom(other.lines);
         }
     }
@@ -1041,10 +1044,10 @@ public final class DeerDays {
                 int c = byteAt(at);
                 int behind = at + 1;
                 if (isLetter(c)) {
-                    behind = behindLetters(at);
+                    behind = behindRun(at, true);
                     addToken(wordToken(words, at, behind), 0, at);
                 } else if (isDigit(c)) {
-                    behind = behindDigits(at);
+                    behind = behindRun(at, false);
                     addToken(behind - at <= 4 ? NUMBER : ODD, numberOf(at, behind), at);
                 } else if (c != 32 && c != 10) {
                     addToken(SIGNS.indexOf((char) c) >= 0 ? c : ODD, 0, at);
@@ -1066,17 +1069,9 @@ public final class DeerDays {
             }
         }
 
-        private int behindLetters(int from) {
+        private int behindRun(int from, boolean ofLetters) {
             int at = from;
-            while (at < count && isLetter(byteAt(at))) {
-                at++;
-            }
-            return at;
-        }
-
-        private int behindDigits(int from) {
-            int at = from;
-            while (at < count && isDigit(byteAt(at))) {
+            while (at < count && (ofLetters ? isLetter(byteAt(at)) : isDigit(byteAt(at)))) {
                 at++;
             }
             return at;

@@ -18,7 +18,7 @@ public final class AgainstModelTest {
     }
 
     public static void main(String[] args) {
-        int runs = args.length > 0 ? Integer.parseInt(args[0]) : 400;
+        int runs = args.length > 0 ? Integer.parseInt(args[0]) : 1500;
         for (int run = 1; run <= runs; run++) {
             new AgainstModelTest(run).go();
         }
@@ -207,12 +207,17 @@ public final class AgainstModelTest {
                 due("reads " + due, x.reads(due), m.reads(due));
             }
             case 3 -> {
-                if (m.h.deer.size() <= 6) due("orders " + what, x.orders(what), m.orders(what));
+                if (m.h.deer.size() <= 6) {
+                    due("orders " + what, x.orders(what), m.orders(what));
+                    due("orders 1", x.orders(1), m.orders(1));
+                    due("orders 2", x.orders(2), m.orders(2));
+                }
             }
             case 4 -> due("moves " + what, x.moves(what), m.moves(what));
             case 5 -> {
                 if (what == 2 && m.t.works.size() > 6) what = 1;
                 due("works " + what, x.works(what), m.works(what));
+                due("works 0", x.works(0), m.works(0));
             }
             case 6 -> due("watch " + what % 3, x.watch(what % 3), m.watch(what % 3));
             case 7 -> due("ways " + what % 3, x.ways(what % 3), m.ways(what % 3));

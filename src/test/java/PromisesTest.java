@@ -282,6 +282,12 @@ public final class PromisesTest {
         y.state(stateThatDraws(1000, 299));
         y.days(1);
         due("6 below wolves", y.look(8), 0);
+        DeerDays z = herd(0, 5);
+        told(z, 0, "come 0;", 1);
+        z.set(3, 0, 1);
+        z.state(stateThatDraws(1000, 0));
+        z.days(1);
+        due("6 wolves of 1", z.look(8), 0);
     }
 
     private static void waitFor() {
@@ -365,6 +371,15 @@ public final class PromisesTest {
         DeerDays x = herd(0, 0, 0, 0);
         faulty(x, 0, "Come 1;", 1, 0);
         faulty(x, 0, "comes 1;", 1, 0);
+        faulty(x, 0, "comez 1;", 1, 0);
+        faulty(x, 0, "comeA 1;", 1, 0);
+        faulty(x, 0, "comeZ 1;", 1, 0);
+        faulty(x, 0, "come{1;", 1, 4);
+        faulty(x, 0, "come@1;", 1, 4);
+        faulty(x, 0, "come[1;", 1, 4);
+        faulty(x, 0, "come`1;", 1, 4);
+        faulty(x, 0, "come:1;", 1, 4);
+        told(x, 0, "come1;", 1);
         faulty(x, 0, "come 1;x", 1, 7);
         faulty(x, 0, "come 1\t;", 1, 6);
         faulty(x, 0, "come 1; \r", 1, 8);
@@ -430,6 +445,15 @@ public final class PromisesTest {
         faulty(x, 0, "come 1 when not not not not not not not not not", 3, 44);
         told(x, 0, "come 1 when (((((((not 1=1 and not 1=2)))))));", 1);
         faulty(x, 0, "come 1 when 1=1 ((((((((( 1=1;", 1, 16);
+        String deep = "1=2 or 1=1 and (".repeat(8) + "1=2 or 1=1 and 1+2*2=5" + ")".repeat(8);
+        told(x, 0, "come 77 when " + deep + ";come 66;", 2);
+        due("12 as deep as can be", x.of(0, 5), 77);
+        told(x, 0, "come 77 when " + deep.replace("=5", "=6") + ";come 66;", 2);
+        due("12 as deep as can be", x.of(0, 5), 66);
+        for (int i = 0; i < 9; i++) {
+            told(x, 0, "come 1" + "+1".repeat(195) + "+" + i + ";", 1);
+            due("12 long ones, again and again", x.of(0, 5), 196 + i);
+        }
     }
 
     private static void textLines() {
@@ -750,6 +774,14 @@ public final class PromisesTest {
         due("20 the lesser ahead", y.orders(12), 3);
         due("20 the lesser ahead", y.orders(13), 0);
         due("20 none such", y.orders(14), NONE);
+        y.seen(NONE, 0);
+        y.seen(0, 1);
+        y.seen(2, 3);
+        due("20 asked behind another one", y.orders(0), 6);
+        due("20 asked behind another one", y.orders(1) * 10 + y.orders(2), 2);
+        y.seen(0, 3);
+        due("20 asked behind another one", y.orders(0), 5);
+        due("20 asked behind another one", y.orders(1) * 10 + y.orders(2), 2);
     }
 
     private static void moves() {
@@ -816,6 +848,25 @@ public final class PromisesTest {
         due("23 best: 5 and 1, 9, 2", x.works(2), 3);
         due("23 another", x.works(3), NONE);
         due("23 another", x.works(-1), NONE);
+        DeerDays y = herd(0, 2, 0, 1);
+        y.work(8);
+        due("23 a whole day", y.works(0), 1);
+        due("23 a whole day", y.works(2), 1);
+        y.work(7);
+        due("23 two whole days", y.works(0), 2);
+        due("23 two whole days", y.works(2), 2);
+        y.work(NONE);
+        y.work(7);
+        y.work(8);
+        due("23 best: 8, 7", y.works(2), 2);
+        due("23 7, 8", y.works(0), 3);
+        y.work(NONE);
+        y.work(24);
+        due("23 fits no day", y.works(0), NONE);
+        told(y, 0, "long 0;", 1);
+        y.work(NONE);
+        y.work(1);
+        due("23 days of no hour", y.works(1), NONE);
         x.eat(2, true);
         due("23 fits no day", x.works(0), NONE);
         due("23 fits no day", x.works(2), NONE);
@@ -892,6 +943,10 @@ public final class PromisesTest {
         x.ate(6, 0);
         due("27", x.ways(0), 2);
         due("27", x.ways(1), 0);
+        x.ate(NONE, 0);
+        x.ate(1, 1);
+        due("27 nothing of what was told ahead", x.ways(0), 1);
+        due("27 nothing of what was told ahead", x.ways(1), 1);
         due("27 another", x.ways(2), NONE);
         due("27 another", x.ways(-1), NONE);
     }
@@ -922,6 +977,11 @@ public final class PromisesTest {
         x.vote(11);
         due("29", x.votes(0), 11);
         due("29", x.votes(1), 14);
+        for (int hour = 0; hour <= 24; hour++) {
+            x.vote(NONE);
+            x.vote(hour);
+            due("29 each hour", x.votes(0), hour);
+        }
         due("29 another", x.votes(2), NONE);
         due("29 another", x.votes(-1), NONE);
     }
@@ -1105,7 +1165,7 @@ public final class PromisesTest {
             x.vote(NONE);
             x.vote(20);
             for (int what = 0; what <= 4; what++) {
-                x.set(what, 0, 1);
+                x.set(what, 0, what > 2 ? 1000 : 1);
             }
             for (int what = 5; what <= 8; what++) {
                 x.set(what, 1, 4);
@@ -1131,6 +1191,11 @@ public final class PromisesTest {
             due("34 paths", x.watch(1), 8);
             due("34 votes", x.votes(0), 7);
             due("34 dues", x.due(1, 0), 2);
+            int alive = x.look(8);
+            x.days(1);
+            due("34 no mist", x.look(2) != NONE, true);
+            due("34 no wolves", x.look(8), alive);
+            x.image(false);
         }
     }
 
