@@ -207,7 +207,7 @@ public final class AgainstModelTest {
                 due("reads " + due, x.reads(due), m.reads(due));
             }
             case 3 -> {
-                if (m.h.deer.size() <= 6) {
+                if (m.h.deer.size() <= 7) {
                     due("orders " + what, x.orders(what), m.orders(what));
                     due("orders 1", x.orders(1), m.orders(1));
                     due("orders 2", x.orders(2), m.orders(2));

@@ -445,6 +445,9 @@ public final class PromisesTest {
         faulty(x, 0, "come 1 when not not not not not not not not not", 3, 44);
         told(x, 0, "come 1 when (((((((not 1=1 and not 1=2)))))));", 1);
         faulty(x, 0, "come 1 when 1=1 ((((((((( 1=1;", 1, 16);
+        faulty(x, 0, "come 1 when (not 1=1 or not", 1, 27);
+        told(x, 0, "come 55 when 1=1; come 66;", 2);
+        due("12 behind a fault", x.of(0, 5), 55);
         String deep = "1=2 or 1=1 and (".repeat(8) + "1=2 or 1=1 and 1+2*2=5" + ")".repeat(8);
         told(x, 0, "come 77 when " + deep + ";come 66;", 2);
         due("12 as deep as can be", x.of(0, 5), 77);
@@ -708,6 +711,12 @@ public final class PromisesTest {
         x.set(5, 2, 2);
         due("18 mark ahead of calm", x.reads(0), 2);
         due("18 another's is alive", x.reads(1), NONE);
+        x.eat(0, false);
+        x.eat(1, true);
+        x.set(5, 0, 5);
+        due("18 the first one", x.reads(1), 0);
+        x.eat(0, true);
+        x.eat(1, false);
         due("18 none such", x.reads(2), NONE);
         due("18 none such", x.reads(-1), NONE);
         for (int i = 1; i < 5; i++) {
@@ -947,6 +956,14 @@ public final class PromisesTest {
         x.ate(1, 1);
         due("27 nothing of what was told ahead", x.ways(0), 1);
         due("27 nothing of what was told ahead", x.ways(1), 1);
+        for (int i = 3; i < 10; i++) {
+            x.deer(0, 0);
+        }
+        for (int i = 0; i < 7; i++) {
+            x.ate(i, 9 - i);
+        }
+        due("27 the last deer, the last poacher", x.ways(0), 2);
+        due("27 the last deer, the last poacher", x.ways(1), 6);
         due("27 another", x.ways(2), NONE);
         due("27 another", x.ways(-1), NONE);
     }
