@@ -58,30 +58,19 @@ public final class PromisesTest {
     }
 
     private static void told(DeerDays x, int k, String text, int lines) {
-        due("text " + k + " [" + text + "]", Check.text(x, k, text), lines);
+        Check.told(x, k, text, lines);
     }
 
     private static void faulty(DeerDays x, int k, String text, int fault, int place) {
-        told(x, k, text, NONE);
-        due("fault of [" + text + "]", x.fault(0), fault);
-        due("place of [" + text + "]", x.fault(1), place);
+        Check.faulty(x, k, text, fault, place);
     }
 
     private static DeerDays herd(int... marksAndCalms) {
-        DeerDays x = new DeerDays();
-        for (int i = 0; i < marksAndCalms.length; i += 2) {
-            due("deer", x.deer(marksAndCalms[i], marksAndCalms[i + 1]), i / 2);
-        }
-        return x;
+        return Check.herd(marksAndCalms);
     }
 
-    /** STATEs that draw, as the first DRAW of m, the wanted number. */
     private static int stateThatDraws(int m, int wanted) {
-        for (int s = 0; ; s++) {
-            if ((s * 1664525 + 1013904223 >>> 8) % m == wanted) {
-                return s;
-            }
-        }
+        return Check.stateThatDraws(m, wanted);
     }
 
     private static void newObject() {
