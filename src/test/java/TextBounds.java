@@ -110,7 +110,7 @@ final class TextBounds {
     static void comparedBelowAtAndAbove() {
         DeerDays x = Check.herd(0, 5);
         String[] below = {"calm<6", "5<calm+1", "not calm=4", "not calm>5"};
-        String[] isNot = {"calm<5", "calm<4", "calm=4", "calm=6", "calm>5", "calm>6", "not calm=5", "not (calm=5)", "not not calm=4"};
+        String[] isNot = {"calm<5", "calm<4", "calm=4", "calm=6", "calm>5", "calm>6", "not calm=5", "not calm<6", "not calm>4", "not (calm=5)", "not not calm=4"};
         for (String b : below) {
             isSo(x, b, true);
         }
@@ -121,6 +121,7 @@ final class TextBounds {
         isSo(x, "calm>4", true);
         isSo(x, "(calm=5)", true);
         isSo(x, "not not calm=5", true);
+        isSo(x, "calm<6 and calm=5 and calm>4", true);
         isSo(x, "not calm=4 and calm=4", false);
         isSo(x, "not (calm=4 and calm=4)", true);
         isSo(x, "(calm=5 or calm=5) and calm=4", false);
@@ -164,7 +165,10 @@ final class TextBounds {
         comes(x, 0, "come 7/2*2;", 6);
         comes(x, 0, "come 2*7/2;", 7);
         comes(x, 0, "come 100/5/4;", 5);
+        comes(x, 0, "come calm/1;", 9);
+        comes(x, 0, "come calm/8;", 1);
         comes(x, 0, "come calm/9;", 1);
+        comes(x, 0, "come calm/10;", 0);
         comes(x, 0, "come calm/9999;", 0);
         faulty(x, LAW, "come *2;", 1, 5);
         faulty(x, LAW, "come 2*;", 1, 7);
