@@ -1742,21 +1742,23 @@ public final class DeerDays {
                     can[poacher] |= 1 << ate.cell(i, 1);
                 }
             }
-            return waysFrom(0, 0);
+            return waysFrom(can, through, 0, 0);
         }
 
-        private int waysFrom(int poacher, int eaten) {
-            if (poacher < 0 || poacher >= POACHERS) {
+        /** The poacher is the depth that is carried along: none goes beyond the last one. */
+        private static int waysFrom(int[] can, int[] through, int poacher, int eaten) {
+            if (poacher < 0 || poacher >= POACHERS || poacher >= can.length) {
                 return 1;
             }
             if (can[poacher] == 0) {
-                return waysFrom(poacher + 1, eaten);
+                return waysFrom(can, through, poacher + 1, eaten);
             }
             int ways = 0;
             for (int i = 0; i < DEER_MOST; i++) {
-                if (((can[poacher] & ~eaten) >> i & 1) == 1) {
-                    int behind = waysFrom(poacher + 1, eaten | 1 << i);
-                    through[poacher * DEER_MOST + i] += behind;
+                int at = poacher * DEER_MOST + i;
+                if (((can[poacher] & ~eaten) >> i & 1) == 1 && at < through.length) {
+                    int behind = waysFrom(can, through, poacher + 1, eaten | 1 << i);
+                    through[at] += behind;
                     ways += behind;
                 }
             }
